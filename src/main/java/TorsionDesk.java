@@ -147,9 +147,13 @@ public final class TorsionDesk {
         return false;
     }
 
-    /** How often 2 divides both the numerator and 2 to the power given; 0 counts as divided without end. */
+    /** How often 2 divides both the numerator and 2 to the power given; it divides 0 without end. */
     private static int sharedTwos(int numerator, int power) {
-        return Math.min(Integer.numberOfTrailingZeros(numerator), power);
+        int shared = 0;
+        while (shared < power && (numerator >> shared & 1) == 0) {
+            shared++;
+        }
+        return shared;
     }
 
     private static int greatestDivisor(int first, int second) {

@@ -145,6 +145,7 @@ public final class PromiseTests {
         CHECK.due("3: -11", desk(0, -1, 1, 0, 0).discriminant(), 256 * -11);
         CHECK.due("3: 64 in x", desk(0, 0, 0, -1, 0).discriminant(), 256 * 64);
         CHECK.due("3: all 6", desk(6, 6, 6, 6, 6).discriminant(), discriminantOf(6, 6, 6, 6, 6));
+        CHECK.due("3: the greatest", desk(-6, 6, 6, 6, 6).discriminant(), -892366848L);
         CHECK.due("3: mixed", desk(-6, 5, 4, -3, 2).discriminant(), discriminantOf(-6, 5, 4, -3, 2));
     }
 
@@ -172,6 +173,22 @@ public final class PromiseTests {
             CHECK.due("4: candidate(" + k + ")", x.candidate(k), ofThirtySeven[k]);
         }
         CHECK.due("4: candidate(5)", x.candidate(5), -1);
+        candidatesAre("4: the most candidates, 64", desk(6, 4, -4, -2, -4), 64);
+        candidatesAre("4: the greatest candidate, 19712", desk(-6, 5, 6, -1, 3), 36);
+        candidatesAre("4: the greatest discriminant", desk(-6, 6, 6, 6, 6), 14);
+    }
+
+    private static void candidatesAre(String of, TorsionDesk x, int count) {
+        long size = Math.abs(x.discriminant());
+        int k = 0;
+        for (long t = 1; t * t <= size; t++) {
+            if (size % (t * t) == 0) {
+                CHECK.due(of + ", candidate(" + k + ")", x.candidate(k), t);
+                k++;
+            }
+        }
+        CHECK.due(of + ", how many", k, count);
+        CHECK.due(of + ", behind the last", x.candidate(k), -1);
     }
 
     private static void points() {
