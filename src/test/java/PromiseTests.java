@@ -206,11 +206,9 @@ public final class PromiseTests {
         // x = -1/4 and y = 1/8: the point of order 2 of y * y + x * y = x * x * x + 4 * x + 1.
         everyPoint("6: curve(1, 0, 0, 4, 1)", desk(1, 0, 0, 4, 1), new long[][] {
             {0, 0, 1, 0, 0, 0, 0}, {-1, 0, 2, -1, 4, 1, 8}});
-        // y = -1/2: a half that has nothing in common with its 2.
-        TorsionDesk half = desk(0, 0, 1, 0, 0);
-        CHECK.due("6: count", half.points(), 3);
-        CHECK.due("6: y of (0, -4)", half.point(1, 5), -1);
-        CHECK.due("6: its denominator", half.point(1, 6), 1);
+        // Here c is not 0, so that Y = -4 and 4 are no opposite y: they are -1 and 0.
+        everyPoint("6: curve(0, 0, 1, 0, 0)", desk(0, 0, 1, 0, 0), new long[][] {
+            {0, 0, 1, 0, 0, 0, 0}, {0, -4, 3, 0, 1, -1, 1}, {0, 4, 3, 0, 1, 0, 1}});
         TorsionDesk x = six();
         for (int k : new int[] {MIN, -1, 6, 15, 16, 31, 32, MAX}) {
             for (int what = -1; what <= 7; what++) {
