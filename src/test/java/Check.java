@@ -1,10 +1,26 @@
 /** Counts and prints the answers that are not as due; shared by the tests of the project. */
 final class Check {
+    static final Class<?> ARGUMENT = IllegalArgumentException.class;
+    static final Class<?> STATE = IllegalStateException.class;
+    static final Class<?> ARITHMETIC = ArithmeticException.class;
+
     private int wrong = 0;
+    private String sentence = "";
+
+    /** The sentence of the document that what follows is about; a fault is told with it. */
+    void about(String where, String words) {
+        sentence = where + ", \"" + words + "\": ";
+    }
 
     void due(String call, long got, long want) {
         if (got != want) {
             tell(call + " answered " + got + ", due is " + want);
+        }
+    }
+
+    void due(String call, String got, String want) {
+        if (!got.equals(want)) {
+            tell(call + " answered\n    " + got + "\n  due is\n    " + want);
         }
     }
 
@@ -30,7 +46,7 @@ final class Check {
     void tell(String fault) {
         wrong++;
         if (wrong <= 40) {
-            System.out.println(fault);
+            System.out.println(sentence + fault);
         }
     }
 

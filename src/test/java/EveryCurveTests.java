@@ -13,7 +13,6 @@ public final class EveryCurveTests {
     }
 
     public static void main(String[] args) {
-        TorsionDesk desk = new TorsionDesk();
         int singular = 0;
         int number = 0;
         for (int a = -6; a <= 6; a++) {
@@ -22,7 +21,7 @@ public final class EveryCurveTests {
                     for (int d = -6; d <= 6; d++) {
                         for (int e = -6; e <= 6; e++) {
                             number++;
-                            if (!look(desk, new int[] {a, b, c, d, e}, number)) {
+                            if (!look(new Model(a, b, c, d, e), number)) {
                                 singular++;
                             }
                         }
@@ -34,32 +33,61 @@ public final class EveryCurveTests {
         CHECK.end();
     }
 
-    private static boolean look(TorsionDesk desk, int[] k, int number) {
-        Model model = new Model(k[0], k[1], k[2], k[3], k[4]);
+    /** Every part has an object of its own, since an object answers 512 calls and no more. */
+    private static boolean look(Model model, int number) {
+        TorsionDesk desk = new TorsionDesk();
         int count;
         try {
-            count = desk.curve(k[0], k[1], k[2], k[3], k[4]);
+            count = desk.curve(model.a, model.b, model.c, model.d, model.e);
         } catch (ArithmeticException e) {
             CHECK.holds(model.name + " singular", model.discriminant() == 0);
+            CHECK.due(model.name + " discriminant()", desk.discriminant(), 0);
             return false;
         }
         CHECK.due(model.name + " discriminant()", desk.discriminant(), model.discriminant());
         CHECK.due(model.name + " points()", desk.points(), count);
+        boundaries(desk, model, count);
         if (count > 1) {
-            numbered(desk, model, count);
-            added(desk, model, count);
-            structured(desk, model, count);
+            Fraction[][] points = numbered(model.desk(), model, count);
+            int[][] sums = added(model.desk(), model, points);
+            multiplied(model.desk(), model, sums);
+            structured(model.desk(), model, sums);
         }
         // What takes long is looked at for a share of the curves, spread by a prime.
         if (number % 101 == 0) {
             CHECK.due(model.name + " points found without candidates", count, model.countFinite());
-            candidates(desk, model);
-            counted(desk, model, count);
+            candidates(model.desk(), model);
+            counted(model.desk(), model, count);
         }
         return true;
     }
 
-    private static void numbered(TorsionDesk desk, Model model, int count) {
+    /** What holds at the ends of every curve's rows, however long they are. */
+    private static void boundaries(TorsionDesk desk, Model model, int count) {
+        CHECK.due(model.name + " point(0, 2)", desk.point(0, 2), 1);
+        CHECK.due(model.name + " point behind the last", desk.point(count, 2), 0);
+        CHECK.due(model.name + " point before the first", desk.point(-1, 2), 0);
+        CHECK.due(model.name + " sum behind the last", desk.sum(0, count), -1);
+        CHECK.due(model.name + " sum before the first", desk.sum(-1, count - 1), -1);
+        CHECK.due(model.name + " times behind the last", desk.times(0, count), -1);
+        CHECK.due(model.name + " times before the first", desk.times(0, -1), -1);
+        CHECK.due(model.name + " candidate before the first", desk.candidate(-1), -1);
+        CHECK.due(model.name + " the first candidate", desk.candidate(0), 1);
+        CHECK.due(model.name + " bound(2)", desk.bound(2), 0);
+        CHECK.due(model.name + " bound(98)", desk.bound(98), 0);
+        CHECK.due(model.name + " m times n", desk.structure(0) * desk.structure(1), count);
+        CHECK.due(model.name + " no such what", desk.structure(4), -1);
+        if (model.cubicAt(0) != 0) {
+            CHECK.due(model.name + " find(0, 0)", desk.find(0, 0), -1);
+        }
+        if (desk.structure(0) == 1) {
+            CHECK.due(model.name + " P", desk.structure(2), 0);
+        }
+    }
+
+    /** Looks at every point, and answers them in x and y; O is null. */
+    private static Fraction[][] numbered(TorsionDesk desk, Model model, int count) {
+        Fraction[][] points = new Fraction[count][];
         for (int k = 1; k < count; k++) {
             long x = desk.point(k, 0);
             long y = desk.point(k, 1);
@@ -70,36 +98,62 @@ public final class EveryCurveTests {
                 boolean rises = before < x || before == x && desk.point(k - 1, 1) < y;
                 CHECK.holds(model.name + " point " + k + " comes behind the one before", rises);
             }
-            Fraction[] point = model.read(desk, k);
-            CHECK.holds(model.name + " point " + k + " in x", point[0].is(x, 4));
-            CHECK.holds(model.name + " point " + k + " in y", point[1].is(y - model.a * x - 4 * model.c, 8));
-            CHECK.due(model.name + " order of point " + k, desk.point(k, 2), model.orderOf(point));
+            points[k] = fractions(desk, model, k);
+            CHECK.holds(model.name + " point " + k + " in x", points[k][0].is(x, 4));
+            CHECK.holds(model.name + " point " + k + " in y", points[k][1].is(y - model.a * x - 4 * model.c, 8));
+            CHECK.due(model.name + " order of point " + k, desk.point(k, 2), model.orderOf(points[k]));
         }
+        return points;
     }
 
-    private static void added(TorsionDesk desk, Model model, int count) {
+    private static Fraction[] fractions(TorsionDesk desk, Model model, int k) {
+        int[] parts = {desk.point(k, 3), desk.point(k, 4), desk.point(k, 5), desk.point(k, 6)};
+        for (int i = 0; i < 4; i += 2) {
+            BigInteger shared = BigInteger.valueOf(parts[i]).gcd(BigInteger.valueOf(parts[i + 1]));
+            CHECK.holds(model.name + " point " + k + " has nothing in common", shared.equals(BigInteger.ONE));
+            CHECK.holds(model.name + " point " + k + " has its denominator above 0", parts[i + 1] > 0);
+        }
+        return new Fraction[] {Fraction.of(parts[0], parts[1]), Fraction.of(parts[2], parts[3])};
+    }
+
+    /** Looks at the sums of all points, and answers them. */
+    private static int[][] added(TorsionDesk desk, Model model, Fraction[][] points) {
+        int count = points.length;
+        int[][] sums = new int[count][count];
         for (int j = 0; j < count; j++) {
             for (int k = 0; k < count; k++) {
-                Fraction[] want = model.add(model.read(desk, j), model.read(desk, k));
                 int got = desk.sum(j, k);
-                CHECK.holds(model.name + " sum(" + j + ", " + k + ") = " + got, same(want, model.read(desk, got)));
+                boolean right = got >= 0 && got < count && same(model.add(points[j], points[k]), points[got]);
+                CHECK.holds(model.name + " sum(" + j + ", " + k + ") = " + got, right);
+                sums[j][k] = right ? got : 0;
             }
+        }
+        return sums;
+    }
+
+    private static void multiplied(TorsionDesk desk, Model model, int[][] sums) {
+        for (int k = 0; k < sums.length; k++) {
             int reached = 0;
             int back = 0;
             for (int n = 0; n <= 13; n++) {
-                CHECK.due(model.name + " times(" + n + ", " + j + ")", desk.times(n, j), reached);
-                CHECK.due(model.name + " times(" + -n + ", " + j + ")", desk.times(-n, j), back);
-                reached = desk.sum(reached, j);
-                back = desk.sum(back, negative(desk, j));
+                CHECK.due(model.name + " times(" + n + ", " + k + ")", desk.times(n, k), reached);
+                CHECK.due(model.name + " times(" + -n + ", " + k + ")", desk.times(-n, k), back);
+                reached = sums[reached][k];
+                back = sums[back][negative(sums, k)];
             }
         }
     }
 
-    private static int negative(TorsionDesk desk, int k) {
-        return k == 0 ? 0 : desk.find(desk.point(k, 0), -desk.point(k, 1));
+    private static int negative(int[][] sums, int k) {
+        int negative = 0;
+        while (negative < sums.length - 1 && sums[k][negative] != 0) {
+            negative++;
+        }
+        return negative;
     }
 
-    private static void structured(TorsionDesk desk, Model model, int count) {
+    private static void structured(TorsionDesk desk, Model model, int[][] sums) {
+        int count = sums.length;
         int n = 1;
         int q = 0;
         for (int k = 0; k < count; k++) {
@@ -110,7 +164,7 @@ public final class EveryCurveTests {
         }
         int m = count / n;
         int p = 0;
-        while (p < count && !(desk.point(p, 2) == m && makeAll(desk, p, m, q, n))) {
+        while (p < count && !(desk.point(p, 2) == m && makeAll(sums, p, m, q, n))) {
             p++;
         }
         CHECK.due(model.name + " m", desk.structure(0), m);
@@ -120,16 +174,19 @@ public final class EveryCurveTests {
         CHECK.due(model.name + " m divides n", n % m, 0);
     }
 
-    private static boolean makeAll(TorsionDesk desk, int p, int m, int q, int n) {
+    private static boolean makeAll(int[][] sums, int p, int m, int q, int n) {
         boolean[] met = new boolean[m * n];
+        int ofP = 0;
         for (int i = 0; i < m; i++) {
+            int sum = ofP;
             for (int j = 0; j < n; j++) {
-                int sum = desk.sum(desk.times(i, p), desk.times(j, q));
                 if (met[sum]) {
                     return false;
                 }
                 met[sum] = true;
+                sum = sums[sum][q];
             }
+            ofP = sums[ofP][p];
         }
         return true;
     }
@@ -149,7 +206,7 @@ public final class EveryCurveTests {
     private static void counted(TorsionDesk desk, Model model, int count) {
         BigInteger shared = BigInteger.ZERO;
         for (int p = 0; p <= 97; p++) {
-            if (p > 2 && BigInteger.valueOf(p).isProbablePrime(30) && model.discriminant() % p != 0) {
+            if (Given.isPrime(p) && model.discriminant() % p != 0) {
                 int pairs = model.countModulo(p);
                 CHECK.due(model.name + " modulo(" + p + ")", desk.modulo(p), pairs);
                 shared = shared.gcd(BigInteger.valueOf(pairs));
@@ -185,24 +242,17 @@ public final class EveryCurveTests {
         }
 
         long discriminant() {
-            long b2 = a * a + 4 * b;
-            long b4 = a * c + 2 * d;
-            long b6 = c * c + 4 * e;
-            long b8 = a * a * e + 4 * b * e - a * c * d + b * c * c - d * d;
-            return 256 * (-b2 * b2 * b8 - 8 * b4 * b4 * b4 - 27 * b6 * b6 + 9 * b2 * b4 * b6);
+            return Given.discriminantOf(a, b, c, d, e);
         }
 
         long cubicAt(long x) {
             return x * x * x + (a * a + 4 * b) * x * x + (16 * d + 8 * a * c) * x + 16 * c * c + 64 * e;
         }
 
-        Fraction[] read(TorsionDesk desk, int k) {
-            if (k <= 0) {
-                return null;
-            }
-            return new Fraction[] {
-                Fraction.of(desk.point(k, 3), desk.point(k, 4)), Fraction.of(desk.point(k, 5), desk.point(k, 6))
-            };
+        TorsionDesk desk() {
+            TorsionDesk desk = new TorsionDesk();
+            desk.curve(a, b, c, d, e);
+            return desk;
         }
 
         Fraction[] add(Fraction[] one, Fraction[] other) {
