@@ -224,6 +224,8 @@ public final class TorsionDesk {
     private static final class SquareDivisors {
         // No curve with coefficients -6 .. 6 has more (all of them were counted).
         private static final int CAPACITY = 64;
+        // Its cube is above every discriminant (892366848 at most).
+        private static final int ABOVE_CUBE_ROOT = 1000;
 
         final int[] row = new int[CAPACITY];
         int size;
@@ -270,7 +272,7 @@ public final class TorsionDesk {
         private static int largestRoot(long number) {
             long rest = number;
             long root = 1;
-            for (long p = 2; p * p * p <= rest; p++) {
+            for (long p = 2; p < ABOVE_CUBE_ROOT && p * p * p <= rest; p++) {
                 for (int i = 0; i < 64 && rest % (p * p) == 0; i++) {
                     rest /= p * p;
                     root *= p;

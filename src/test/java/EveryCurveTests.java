@@ -1,13 +1,23 @@
 import java.math.BigInteger;
+import java.util.ArrayList;
+import java.util.HashMap;
+import java.util.List;
+import java.util.Map;
 
 /**
  * Asks for every curve that there is, and holds the answers against sums on the
  * curve itself (in x and y, with fractions), against a search for points that
- * knows nothing of candidates, and against counts made pair by pair.
+ * knows nothing of candidates, and against counts in x and y modulo primes.
  */
 public final class EveryCurveTests {
     private static final Check CHECK = new Check();
     private static final int SINGULAR_CURVES = 1661;
+    private static final int LARGEST_PRIME = 97;
+
+    // Many curves share a discriminant or a cubic: what takes long is found once for each.
+    private static final Map<Long, List<Long>> CANDIDATES = new HashMap<>();
+    private static final Map<List<Long>, Integer> FINITE = new HashMap<>();
+    private static final int[][][] ROOTS = roots();
 
     private EveryCurveTests() {
     }
@@ -53,13 +63,31 @@ public final class EveryCurveTests {
             multiplied(model.desk(), model, sums);
             structured(model.desk(), model, sums);
         }
+        int found = FINITE.computeIfAbsent(model.cubic(), cubic -> model.countFinite());
+        CHECK.due(model.name + " points found without candidates", count, found);
+        candidates(model.desk(), model);
+        counted(model.desk(), model, count);
         // What takes long is looked at for a share of the curves, spread by a prime.
         if (number % 101 == 0) {
-            CHECK.due(model.name + " points found without candidates", count, model.countFinite());
-            candidates(model.desk(), model);
-            counted(model.desk(), model, count);
+            bounded(model.desk(), model);
         }
         return true;
+    }
+
+    /** For each prime p, and u and v below it, how many y there are for which p divides y * y + u * y - v. */
+    private static int[][][] roots() {
+        int[][][] all = new int[LARGEST_PRIME + 1][][];
+        for (int p = 3; p <= LARGEST_PRIME; p++) {
+            if (Given.isPrime(p)) {
+                all[p] = new int[p][p];
+                for (int u = 0; u < p; u++) {
+                    for (int y = 0; y < p; y++) {
+                        all[p][u][(y * y + u * y) % p]++;
+                    }
+                }
+            }
+        }
+        return all;
     }
 
     /** What holds at the ends of every curve's rows, however long they are. */
@@ -192,28 +220,48 @@ public final class EveryCurveTests {
     }
 
     private static void candidates(TorsionDesk desk, Model model) {
-        long size = Math.abs(model.discriminant());
-        int k = 0;
+        List<Long> want = CANDIDATES.computeIfAbsent(Math.abs(model.discriminant()), EveryCurveTests::squareDivisors);
+        for (int k = 0; k < want.size(); k++) {
+            CHECK.due(model.name + " candidate " + k, desk.candidate(k), want.get(k));
+        }
+        CHECK.due(model.name + " candidate behind the last", desk.candidate(want.size()), -1);
+    }
+
+    private static List<Long> squareDivisors(long size) {
+        List<Long> divisors = new ArrayList<>();
         for (long t = 1; t * t <= size; t++) {
             if (size % (t * t) == 0) {
-                CHECK.due(model.name + " candidate(" + k + ")", desk.candidate(k), t);
-                k++;
+                divisors.add(t);
             }
         }
-        CHECK.due(model.name + " candidate(" + k + ")", desk.candidate(k), -1);
+        return divisors;
     }
 
     private static void counted(TorsionDesk desk, Model model, int count) {
-        BigInteger shared = BigInteger.ZERO;
-        for (int p = 0; p <= 97; p++) {
-            if (Given.isPrime(p) && model.discriminant() % p != 0) {
+        int shared = 0;
+        for (int p = 3; p <= LARGEST_PRIME; p++) {
+            if (ROOTS[p] != null && model.discriminant() % p != 0) {
                 int pairs = model.countModulo(p);
-                CHECK.due(model.name + " modulo(" + p + ")", desk.modulo(p), pairs);
-                shared = shared.gcd(BigInteger.valueOf(pairs));
+                CHECK.due(model.name + " modulo " + p, desk.modulo(p), pairs);
+                shared = common(shared, pairs);
             }
-            CHECK.due(model.name + " bound(" + p + ")", desk.bound(p), shared.intValue());
         }
-        CHECK.due(model.name + " the bound is a multiple of the points", desk.bound(97) % count, 0);
+        CHECK.due(model.name + " bound(97)", desk.bound(LARGEST_PRIME), shared);
+        CHECK.due(model.name + " the bound is a multiple of the points", shared % count, 0);
+    }
+
+    private static void bounded(TorsionDesk desk, Model model) {
+        int shared = 0;
+        for (int n = 0; n <= LARGEST_PRIME; n++) {
+            if (ROOTS[n] != null && model.discriminant() % n != 0) {
+                shared = common(shared, model.countModulo(n));
+            }
+            CHECK.due(model.name + " bound(" + n + ")", desk.bound(n), shared);
+        }
+    }
+
+    private static int common(int one, int other) {
+        return BigInteger.valueOf(one).gcd(BigInteger.valueOf(other)).intValue();
     }
 
     private static boolean same(Fraction[] one, Fraction[] other) {
@@ -249,6 +297,10 @@ public final class EveryCurveTests {
             return x * x * x + (a * a + 4 * b) * x * x + (16 * d + 8 * a * c) * x + 16 * c * c + 64 * e;
         }
 
+        List<Long> cubic() {
+            return List.of((long) a * a + 4 * b, 16L * d + 8 * a * c, 16L * c * c + 64 * e);
+        }
+
         TorsionDesk desk() {
             TorsionDesk desk = new TorsionDesk();
             desk.curve(a, b, c, d, e);
@@ -277,12 +329,15 @@ public final class EveryCurveTests {
             return new Fraction[] {z, w};
         }
 
-        /** The order, 0 if it is above 12 or there is none. */
+        /** The order, 0 if there is none up to 12; that a multiple has no whole X = 4 * x shows it sooner. */
         int orderOf(Fraction[] point) {
             Fraction[] reached = point;
             for (int order = 1; order <= 12; order++) {
                 if (reached == null) {
                     return order;
+                }
+                if (!reached[0].by(4).isWhole()) {
+                    return 0;
                 }
                 reached = add(reached, point);
             }
@@ -307,13 +362,9 @@ public final class EveryCurveTests {
         int countModulo(int p) {
             int count = 1;
             for (int x = 0; x < p; x++) {
-                for (int y = 0; y < p; y++) {
-                    long left = y * y + a * x * y + c * y;
-                    long right = x * x * x + b * x * x + d * x + e;
-                    if ((left - right) % p == 0) {
-                        count++;
-                    }
-                }
+                int u = Math.floorMod(a * x + c, p);
+                int v = Math.floorMod(((x + b) * x + d) * x + e, p);
+                count += ROOTS[p][u][v];
             }
             return count;
         }
@@ -349,6 +400,10 @@ public final class EveryCurveTests {
 
         Fraction over(Fraction other) {
             return new Fraction(top.multiply(other.bottom), bottom.multiply(other.top));
+        }
+
+        boolean isWhole() {
+            return bottom.equals(BigInteger.ONE);
         }
 
         boolean isZero() {

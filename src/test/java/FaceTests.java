@@ -29,8 +29,19 @@ public final class FaceTests {
 
     public static void main(String[] args) {
         Check check = new Check();
+        check.about("The public face", "public final class TorsionDesk");
         Class<?> desk = TorsionDesk.class;
         check.holds("public and final", Modifier.isPublic(desk.getModifiers()) && Modifier.isFinal(desk.getModifiers()));
+        check.due("NONE", TorsionDesk.NONE, -1);
+        members(check, desk);
+        check.about("LANGUAGE.md", "rules 1 and 5");
+        namesOfPrivateMethods(check, desk);
+        staticFields(check, desk);
+        classesInside(check, desk);
+        check.end();
+    }
+
+    private static void members(Check check, Class<?> desk) {
         Set<String> seen = new TreeSet<>();
         for (Field field : desk.getDeclaredFields()) {
             if (!Modifier.isPrivate(field.getModifiers())) {
@@ -51,6 +62,35 @@ public final class FaceTests {
         for (String member : FACE) {
             check.holds("in the class: " + member, seen.contains(member));
         }
-        check.end();
+    }
+
+    private static void namesOfPrivateMethods(Check check, Class<?> desk) {
+        Set<String> open = new TreeSet<>();
+        for (Method method : desk.getDeclaredMethods()) {
+            if (Modifier.isPublic(method.getModifiers())) {
+                open.add(method.getName());
+            }
+        }
+        for (Method method : desk.getDeclaredMethods()) {
+            if (Modifier.isPrivate(method.getModifiers())) {
+                check.holds("a name of its own: " + method, !open.contains(method.getName()));
+            }
+        }
+    }
+
+    private static void staticFields(Check check, Class<?> type) {
+        for (Field field : type.getDeclaredFields()) {
+            int modifiers = field.getModifiers();
+            check.holds("static, so final: " + field, !Modifier.isStatic(modifiers) || Modifier.isFinal(modifiers));
+        }
+    }
+
+    private static void classesInside(Check check, Class<?> desk) {
+        for (Class<?> inside : desk.getDeclaredClasses()) {
+            int modifiers = inside.getModifiers();
+            check.holds("static: " + inside, Modifier.isStatic(modifiers));
+            check.holds("not open: " + inside, !Modifier.isPublic(modifiers) && !Modifier.isProtected(modifiers));
+            staticFields(check, inside);
+        }
     }
 }
